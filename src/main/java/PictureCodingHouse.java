@@ -529,7 +529,13 @@ public final class PictureCodingHouse {
         if (end == 0 || end == 1) {
             for (int share = 0; share < PICTURES; share++) {
                 if (batch.hasValue[share] && pictures[share].there) {
-                    writeForm(share, form, number);
+                    switch (form) {
+                        case 0: lines.write(pictures, share, 1, 0, number, 0, out); break;
+                        case 1: waves.write(pictures[share], number, out); break;
+                        case 2: chunks.write(pictures[share], out); break;
+                        default: greys.write(pictures[share], number, out); break;
+                    }
+                    store(share);
                 }
             }
         }
@@ -696,18 +702,6 @@ public final class PictureCodingHouse {
         return -1 - faultPlace;
     }
 
-    private void writeForm(int share, int form, int number) {
-        needIndex(share, PICTURES);
-        Grid picture = pictures[share];
-        switch (form) {
-            case 0: lines.write(pictures, share, 1, 0, number, 0, out); break;
-            case 1: waves.write(picture, number, out); break;
-            case 2: chunks.write(picture, out); break;
-            default: greys.write(picture, number, out); break;
-        }
-        store(share);
-    }
-
     /** Samples in rows and columns: a picture's, with its shape as marks, or a sheet's, with the dark ones marked. */
     private static final class Grid {
         private final int[] value;
@@ -807,7 +801,7 @@ public final class PictureCodingHouse {
             return other;
         }
 
-        /** What a sample becomes when another one is laid on it by an operator: or, and, differing, same, else that one. */
+        /** What a sample becomes when one is laid on it: by or, and, differing, same, else that one. */
         static boolean laidOn(boolean before, boolean laid, int operator) {
             switch (operator) {
                 case 0: return before || laid;
@@ -1165,8 +1159,8 @@ public final class PictureCodingHouse {
             for (int node = root - 1; node >= 0; node--) {
                 int above = parent[node];
                 depth[node] = above > node && above <= root ? depth[above] + 1 : 0;
-                if (node < leaves) {
-                    setLength(sorted[node], depth[node]);
+                if (node < leaves && sorted[node] < length.length) {
+                    length[sorted[node]] = depth[node];
                 }
             }
         }
@@ -2269,13 +2263,13 @@ public final class PictureCodingHouse {
         private void readOrder(int letters, int p) {
             boolean isRight = (letters == IHDR) == (chunkCount == 0);
             switch (letters) {
-                case GAMA: isRight &= !dataSeen && !gammaSeen && !paletteSeen; break;
-                case SRGB: isRight &= !dataSeen && !colourSeen && !paletteSeen; break;
-                case PHYS: isRight &= !dataSeen && !scaleSeen; break;
-                case PLTE: isRight &= !dataSeen && !paletteSeen && kind != 0 && kind != 4; break;
-                case TRNS: isRight &= !dataSeen && !alphasSeen && paletteSeen; break;
-                case IDAT: isRight &= !dataOver && (kind != PALETTE || paletteSeen); break;
-                case IEND: isRight &= dataSeen; break;
+                case GAMA: isRight = isRight && !dataSeen && !gammaSeen && !paletteSeen; break;
+                case SRGB: isRight = isRight && !dataSeen && !colourSeen && !paletteSeen; break;
+                case PHYS: isRight = isRight && !dataSeen && !scaleSeen; break;
+                case PLTE: isRight = isRight && !dataSeen && !paletteSeen && kind != 0 && kind != 4; break;
+                case TRNS: isRight = isRight && !dataSeen && !alphasSeen && paletteSeen; break;
+                case IDAT: isRight = isRight && !dataOver && (kind != PALETTE || paletteSeen); break;
+                case IEND: isRight = isRight && dataSeen; break;
                 default: break;
             }
             if (!isRight) {
