@@ -1,0 +1,272 @@
+import java.util.ArrayList;
+import java.util.List;
+import java.util.Random;
+
+/** What the tests share: checks that print what is wrong, bytes and bits, and files of a house. */
+final class Checks {
+    private static int failures = 0;
+    private static int checks = 0;
+
+    private Checks() {
+    }
+
+    static void same(String what, long due, long got) {
+        checks++;
+        if (due != got) {
+            failures++;
+            if (failures <= 40) {
+                System.out.println(what + ": got " + got + ", due is " + due);
+            }
+        }
+    }
+
+    static void same(String what, int[] due, int[] got) {
+        checks++;
+        if (!java.util.Arrays.equals(due, got)) {
+            failures++;
+            if (failures <= 40) {
+                System.out.println(what + ": got " + java.util.Arrays.toString(got)
+                        + ", due is " + java.util.Arrays.toString(due));
+            }
+        }
+    }
+
+    static void holds(String what, boolean holds) {
+        same(what, 1, holds ? 1 : 0);
+    }
+
+    static void index(String what, Runnable call) {
+        fails(what, IndexOutOfBoundsException.class, call);
+    }
+
+    static void state(String what, Runnable call) {
+        fails(what, IllegalStateException.class, call);
+    }
+
+    static void argument(String what, Runnable call) {
+        fails(what, IllegalArgumentException.class, call);
+    }
+
+    static void support(String what, Runnable call) {
+        fails(what, UnsupportedOperationException.class, call);
+    }
+
+    private static void fails(String what, Class<?> due, Runnable call) {
+        Class<?> got = null;
+        try {
+            call.run();
+        } catch (RuntimeException e) {
+            got = e.getClass();
+        }
+        holds(what + " throws " + got + ", due is " + due, got == due);
+    }
+
+    /** Ends the test: with exit code 1 if a check was not met. */
+    static void end() {
+        System.out.println(checks + " checks, " + failures + " not met");
+        if (failures > 0) {
+            System.exit(1);
+        }
+    }
+
+    // ---- files
+
+    static void load(PictureCodingHouse house, int f, int[] bytes) {
+        house.cut(f, 0);
+        for (int b : bytes) {
+            house.feed(f, b);
+        }
+    }
+
+    static int[] file(PictureCodingHouse house, int f) {
+        int[] bytes = new int[house.size(2, f, 0)];
+        for (int i = 0; i < bytes.length; i++) {
+            bytes[i] = house.byteAt(f, i);
+        }
+        return bytes;
+    }
+
+    static int[] bytes(List<Integer> list) {
+        int[] bytes = new int[list.size()];
+        for (int i = 0; i < bytes.length; i++) {
+            bytes[i] = list.get(i) & 255;
+        }
+        return bytes;
+    }
+
+    static void addNumber(List<Integer> list, long v, int count) {
+        for (int i = count - 1; i >= 0; i--) {
+            list.add((int) (v >> 8 * i & 255));
+        }
+    }
+
+    static int[] joined(int[]... rows) {
+        List<Integer> all = new ArrayList<>();
+        for (int[] row : rows) {
+            for (int b : row) {
+                all.add(b);
+            }
+        }
+        return bytes(all);
+    }
+
+    static int[] first(int[] bytes, int n) {
+        return java.util.Arrays.copyOf(bytes, n);
+    }
+
+    static int[] altered(int[] bytes, int i, int b) {
+        int[] other = bytes.clone();
+        other[i] = b;
+        return other;
+    }
+
+    // ---- bits, as texts of 0 and 1
+
+    static String bits(long v, int n) {
+        StringBuilder text = new StringBuilder();
+        for (int i = n - 1; i >= 0; i--) {
+            text.append(v >> i & 1);
+        }
+        return text.toString();
+    }
+
+    /** As many 0 as the number has bits behind its highest one, then its bits. */
+    static String counted(int number) {
+        String digits = Integer.toBinaryString(number);
+        return "0".repeat(digits.length() - 1) + digits;
+    }
+
+    /** Bytes of bits, the highest of a byte first, the last one filled with 0. */
+    static int[] packed(String bits) {
+        int[] bytes = new int[(bits.length() + 7) / 8];
+        for (int i = 0; i < bits.length(); i++) {
+            if (bits.charAt(i) == '1') {
+                bytes[i / 8] |= 128 >> i % 8;
+            }
+        }
+        return bytes;
+    }
+
+    /** The same, the lowest of a byte first. */
+    static int[] packedLow(String bits) {
+        int[] bytes = new int[(bits.length() + 7) / 8];
+        for (int i = 0; i < bits.length(); i++) {
+            if (bits.charAt(i) == '1') {
+                bytes[i / 8] |= 1 << i % 8;
+            }
+        }
+        return bytes;
+    }
+
+    // ---- pictures and sheets
+
+    static void draw(PictureCodingHouse house, int k, int[][] grey) {
+        house.picture(k, grey[0].length, grey.length);
+        for (int y = 0; y < grey.length; y++) {
+            for (int x = 0; x < grey[0].length; x++) {
+                house.put(k, x, y, 1, grey[y][x]);
+            }
+        }
+    }
+
+    static void mask(PictureCodingHouse house, int k, boolean[][] inside) {
+        for (int y = 0; y < inside.length; y++) {
+            for (int x = 0; x < inside[0].length; x++) {
+                house.shape(k, x, y, 1, inside[y][x]);
+            }
+        }
+    }
+
+    static void drawSheet(PictureCodingHouse house, int s, String... rows) {
+        house.sheet(s, rows[0].length(), rows.length);
+        for (int y = 0; y < rows.length; y++) {
+            for (int x = 0; x < rows[y].length(); x++) {
+                if (rows[y].charAt(x) == '#') {
+                    house.ink(s, x, y, 1, true);
+                }
+            }
+        }
+    }
+
+    static String[] sheet(PictureCodingHouse house, int s) {
+        String[] rows = new String[house.size(1, s, 1)];
+        for (int y = 0; y < rows.length; y++) {
+            StringBuilder row = new StringBuilder();
+            for (int x = 0; x < house.size(1, s, 0); x++) {
+                row.append(house.isDark(s, x, y) ? '#' : '.');
+            }
+            rows[y] = row.toString();
+        }
+        return rows;
+    }
+
+    static void sameSheet(String what, PictureCodingHouse house, int s, String... rows) {
+        String got = String.join("/", sheet(house, s));
+        holds(what + ": got " + got + ", due is " + String.join("/", rows), got.equals(String.join("/", rows)));
+    }
+
+    static void samePicture(String what, PictureCodingHouse house, int k, int[][] grey) {
+        same(what + " width", grey[0].length, house.size(0, k, 0));
+        same(what + " height", grey.length, house.size(0, k, 1));
+        if (house.size(0, k, 0) != grey[0].length || house.size(0, k, 1) != grey.length) {
+            return;
+        }
+        for (int y = 0; y < grey.length; y++) {
+            for (int x = 0; x < grey[0].length; x++) {
+                same(what + " at " + x + " " + y, grey[y][x], house.at(k, x, y));
+            }
+        }
+    }
+
+    static void sameMask(String what, PictureCodingHouse house, int k, boolean[][] inside) {
+        for (int y = 0; y < inside.length; y++) {
+            for (int x = 0; x < inside[0].length; x++) {
+                holds(what + " inside at " + x + " " + y, inside[y][x] == house.isInside(k, x, y));
+            }
+        }
+    }
+
+    /** Greys of some sort: any, smooth, few, or of one value but for some. */
+    static int[][] greys(Random random, int width, int height, int top) {
+        int[][] grey = new int[height][width];
+        int sort = random.nextInt(4);
+        int base = random.nextInt(top + 1);
+        for (int y = 0; y < height; y++) {
+            for (int x = 0; x < width; x++) {
+                int v = random.nextInt(top + 1);
+                if (sort == 1) {
+                    v = base + (x * 5 + y * 3) / 2 + random.nextInt(3);
+                } else if (sort == 2) {
+                    v = random.nextBoolean() ? 0 : top;
+                } else if (sort == 3 && random.nextInt(8) > 0) {
+                    v = base;
+                }
+                grey[y][x] = Math.max(0, Math.min(top, v));
+            }
+        }
+        return grey;
+    }
+
+    static boolean[][] maskOf(Random random, int width, int height) {
+        boolean[][] inside = new boolean[height][width];
+        int share = random.nextInt(5);
+        for (boolean[] row : inside) {
+            for (int x = 0; x < width; x++) {
+                row[x] = random.nextInt(4) < share;
+            }
+        }
+        return inside;
+    }
+
+    /** Checks that the latest UN.. call, that answered so, met a fault at a place. */
+    static void sameFault(String what, PictureCodingHouse house, int answer, int number, int place) {
+        same(what + " answer", -1 - place, answer);
+        same(what + " fault", number, house.fault(0));
+        same(what + " place", place, house.fault(1));
+    }
+
+    static void noFault(String what, PictureCodingHouse house) {
+        same(what + " fault", 0, house.fault(0));
+        same(what + " place", PictureCodingHouse.NONE, house.fault(1));
+    }
+}
