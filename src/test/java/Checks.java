@@ -25,10 +25,16 @@ final class Checks {
         if (!java.util.Arrays.equals(due, got)) {
             failures++;
             if (failures <= 40) {
-                System.out.println(what + ": got " + java.util.Arrays.toString(got)
-                        + ", due is " + java.util.Arrays.toString(due));
+                int i = java.util.Arrays.mismatch(due, got);
+                System.out.println(what + ": got " + got.length + " bytes, due are " + due.length
+                        + ", other from " + i + " on: got " + shortText(got, i) + ", due is " + shortText(due, i));
             }
         }
+    }
+
+    private static String shortText(int[] bytes, int from) {
+        int to = Math.min(bytes.length, from + 16);
+        return java.util.Arrays.toString(java.util.Arrays.copyOfRange(bytes, Math.min(from, to), to));
     }
 
     static void holds(String what, boolean holds) {
