@@ -1016,6 +1016,10 @@ public final class PictureCodingHouse {
             return v;
         }
 
+        boolean isAtByte() {
+            return (bitAt & 7) == 0;
+        }
+
         int bytePlace() {
             return bitAt >> 3;
         }
@@ -1921,24 +1925,29 @@ public final class PictureCodingHouse {
 
         /** Lifts all rows, or all columns, of points that are a step apart. */
         private void liftLines(int step, boolean rows, boolean back) {
-            int lines = rows ? points.height : points.width;
-            int length = rows ? points.width : points.height;
-            int along = rows ? 1 : points.width;
-            int across = rows ? points.width : 1;
-            for (int line = 0; line < lines; line += step) {
-                for (int from = 0; from < length; from += step) {
-                    int first = line * across + from * along;
+            int along = step * (rows ? 1 : points.width);
+            int across = step * (rows ? points.width : 1);
+            int lines = pointsIn(rows ? points.height : points.width, step);
+            int length = pointsIn(rows ? points.width : points.height, step);
+            for (int line = 0; line < lines; line++) {
+                int place = 0;
+                while (place < length) {
+                    int first = line * across + place * along;
                     int count = 1;
-                    while (count < SIDE_MOST && from + count * step < length
-                            && isSamePart(first, first + count * step * along)) {
+                    while (place + count < length && isSamePart(first, first + count * along)) {
                         count++;
                     }
                     if (count > 1) {
-                        liftRow(first, step * along, count, from / Math.max(1, step), back);
-                        from += (count - 1) * step;
+                        liftRow(first, along, count, place, back);
                     }
+                    place += count;
                 }
             }
+        }
+
+        /** How many of so many samples are a step apart, from the first one on. */
+        private static int pointsIn(int samples, int step) {
+            return (samples + step - 1) / Math.max(1, step);
         }
 
         private boolean isSamePart(int one, int two) {
@@ -3001,7 +3010,7 @@ public final class PictureCodingHouse {
             distances.forgetLengths();
             int at = 0;
             int before = NONE;
-            while (at < all) {
+            for (int told = 0; told < all && at < all; told++) {
                 int place = source.bytePlace();
                 int symbol = lengths.takeSymbol(source);
                 if (symbol == NONE || symbol == 16 && at == 0) {
@@ -3323,7 +3332,7 @@ public final class PictureCodingHouse {
         }
 
         private void passRest() {
-            while ((row.bitAt & 7) != 0) {
+            for (int i = 0; i < 8 && !row.isAtByte(); i++) {
                 if (row.takeBit() == 1) {
                     row.fail(13, HEAD);
                 }
@@ -3615,7 +3624,7 @@ public final class PictureCodingHouse {
             }
             beginNames();
             readStrips(instances);
-            while ((row.bitAt & 7) != 0) {
+            for (int i = 0; i < 8 && !row.isAtByte(); i++) {
                 needAll(row.takeBit() == 0, 19);
             }
             needAll(!row.hasBit(), 19);
@@ -3696,7 +3705,7 @@ public final class PictureCodingHouse {
                 int place = firstPlace;
                 int last = readInstance(place, strip);
                 done++;
-                while (row.takeBit() == 1) {
+                for (int more = 0; more <= INSTANCES_MOST && row.takeBit() == 1; more++) {
                     needAll(done < instances, 12);
                     place += turned ? heightOf(last) : widthOf(last);
                     place += takeSigned();
@@ -3755,9 +3764,10 @@ public final class PictureCodingHouse {
             long differing = 0;
             int told = 0;
             boolean differs = false;
-            while (told < width * height) {
+            // each run but the first one tells of a sample
+            for (int runs = 0; runs <= width * height && told < width * height; runs++) {
                 int run = takeNumber();
-                needAll(run <= width * height - told && (run > 0 || told == 0 && !differs), 17);
+                needAll(run <= width * height - told && (run > 0 || runs == 0), 17);
                 for (int i = 0; i < run && differs; i++) {
                     differing |= dot((told + i) % Math.max(1, width), (told + i) / Math.max(1, width));
                 }
@@ -4229,7 +4239,7 @@ public final class PictureCodingHouse {
         private int readOpenRows(int first, int rowBytes) {
             int place = first;
             int rows = 0;
-            while (takeByte(place) == 1) {
+            while (rows <= PIECE && takeByte(place) == 1) {
                 needAll(rows < region.height, 8);
                 if (row.count - place - 1 < rowBytes) {
                     row.fail(1, row.count);
