@@ -711,8 +711,8 @@ public final class PictureCodingHouse {
         private int height;
 
         Grid(int samples) {
-            value = new int[samples];
-            mark = new boolean[samples];
+            value = new int[Math.max(0, samples)];
+            mark = new boolean[Math.max(0, samples)];
         }
 
         void drop() {
@@ -880,7 +880,7 @@ public final class PictureCodingHouse {
         private int faultPlace;
 
         ByteRow(int capacity) {
-            data = new int[capacity];
+            data = new int[Math.max(0, capacity)];
         }
 
         void empty() {
@@ -1063,13 +1063,14 @@ public final class PictureCodingHouse {
         private int coded;
 
         Prefix(int symbols) {
-            count = new int[symbols];
-            length = new int[symbols];
-            code = new int[symbols];
-            sorted = new int[symbols];
-            weight = new int[2 * symbols];
-            parent = new int[2 * symbols];
-            depth = new int[2 * symbols];
+            int size = Math.max(1, symbols);
+            count = new int[size];
+            length = new int[size];
+            code = new int[size];
+            sorted = new int[size];
+            weight = new int[2 * size];
+            parent = new int[2 * size];
+            depth = new int[2 * size];
         }
 
         void forgetCounts() {
@@ -3184,10 +3185,8 @@ public final class PictureCodingHouse {
                 takeRun();
             }
             passRest();
-            for (int i = 0; i < width * height; i++) {
-                if (greyAt(i % width, i / width) > side * side) {
-                    row.fail(14, HEAD);
-                }
+            if (greatestGrey() > side * side) {
+                row.fail(14, HEAD);
             }
             picture.make(width, height, true);
             for (int y = 0; y < height; y++) {
@@ -3196,6 +3195,16 @@ public final class PictureCodingHouse {
                 }
             }
             return width * height;
+        }
+
+        private int greatestGrey() {
+            int greatest = 0;
+            for (int y = 0; y < height; y++) {
+                for (int x = 0; x < width; x++) {
+                    greatest = Math.max(greatest, greyAt(x, y));
+                }
+            }
+            return greatest;
         }
 
         private void begin(ByteRow bytes, boolean read, int q, int wide, int high) {
