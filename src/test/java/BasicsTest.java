@@ -246,6 +246,7 @@ public final class BasicsTest {
         Checks.argument("pack", () -> house.pack(0, 10, 0));
         Checks.noFault("a call that throws changes nothing", house);
         Checks.same("halftone is none", 0, house.halftone(0, 1, 0) - 4);
+        eachIsOne();
         PictureCodingHouse other = new PictureCodingHouse();
         other.picture(0, 1, 1);
         for (int i = 0; i < 292; i++) {
@@ -254,6 +255,26 @@ public final class BasicsTest {
         Checks.support("eight are too few for a batch", () -> other.batch(1, 0, 0, 0));
         Checks.same("unline answers a fault", -1, other.unline(0, 0));
         Checks.same("it is work", 293, other.told(0));
+    }
+
+    private static void eachIsOne() {
+        PictureCodingHouse house = new PictureCodingHouse();
+        house.picture(0, 2, 2);
+        house.sheet(0, 2, 2);
+        Runnable[] calls = {() -> house.lines(0, 1, 0, 0, 0, 0), () -> house.unline(0, 1), () -> house.waves(0, 99, 0),
+            () -> house.unwave(0, 99, 1), () -> house.wave(0, 0, 0), () -> house.chunks(0, 0),
+            () -> house.unchunk(0, 1), () -> house.pack(0, 9, 1), () -> house.unpack(1, 0), () -> house.greys(0, 1, 0),
+            () -> house.ungrey(0, 1), () -> house.text(0, 0, 0, 0), () -> house.untext(0, 1),
+            () -> house.book(0, 1, 0, 0, 0), () -> house.unbook(0, 0, 1), () -> house.album(0)};
+        for (int i = 0; i < calls.length; i++) {
+            calls[i].run();
+            Checks.same("each is one, " + i, i + 1, house.told(0));
+            Checks.noFault("each is right, " + i, house);
+        }
+        house.batch(1, 1, 2, 0);
+        Checks.same("a batch is nine", calls.length + 9, house.told(0));
+        house.unbook(2, 0, 1);
+        Checks.same("one that meets a fault", calls.length + 10, house.told(0));
     }
 
     private static void cleared() {

@@ -465,6 +465,8 @@ public final class BooksTest {
         wrong("filled", 8, begun().open(1, Checks.altered(open, 18, 16)));
         wrong("no row", 8, begun().open(1, Checks.joined(Checks.first(open, 17), new int[] {255, 172, 0, 0, 0, 0})));
         wrong("a value", 8, begun().open(1, Checks.altered(open, 3, 17)));
+        int[] cut = Checks.first(Checks.altered(open, 20, 1), 21);
+        wrong("filled, and the bytes end", 8, begun().open(1, cut));
         Book book = begun().open(1, open);
         int[] file = book.file(2, 1);
         for (int left = 1; left <= open.length; left++) {

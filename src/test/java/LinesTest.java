@@ -8,6 +8,7 @@ public final class LinesTest {
         wrongCalls();
         byHand();
         sameAsReference();
+        fullAtTheEnd();
         readMore();
         faultsOfMarks();
         faultsOfSegments();
@@ -282,6 +283,46 @@ public final class LinesTest {
             }
             Checks.same("work", 3, house.told(0));
         }
+    }
+
+    /** Data, and data before a restart, that end with 255: a 0 follows. */
+    private static void fullAtTheEnd() {
+        Random random = new Random(71);
+        int ends = 0;
+        int restarts = 0;
+        int[] few = {0, 1, 2, 250, 252, 254, 255};
+        for (int run = 0; run < 4000 && (ends < 10 || restarts < 10); run++) {
+            // samples that are as foretold take a bit 1 each, after some
+            int[][] grey = new int[2][8 + random.nextInt(5)];
+            for (int[] row : grey) {
+                for (int x = 0; x < random.nextInt(5); x++) {
+                    row[x] = few[random.nextInt(7)];
+                }
+            }
+            Stream stream = new Stream(grey);
+            stream.mark(0xD8);
+            stream.frame();
+            stream.restarts(1);
+            stream.scan(0, null, 0);
+            int[] due = stream.done();
+            int n = due.length;
+            boolean isEnd = due[n - 4] == 255 && due[n - 3] == 0;
+            boolean isRestart = false;
+            for (int i = 0; i + 3 < n; i++) {
+                isRestart |= due[i] == 255 && due[i + 1] == 0 && due[i + 2] == 255 && due[i + 3] == 0xD0;
+            }
+            if (isEnd || isRestart) {
+                ends += isEnd ? 1 : 0;
+                restarts += isRestart ? 1 : 0;
+                PictureCodingHouse house = new PictureCodingHouse();
+                Checks.draw(house, 0, grey);
+                Checks.same("255 at the end", n, house.lines(0, 1, 0, 0, 1, 0));
+                Checks.same("255 at the end", due, Checks.file(house, 0));
+                Checks.same("255 at the end", 1, house.unline(0, 1));
+                Checks.samePicture("255 at the end", house, 1, grey);
+            }
+        }
+        Checks.holds("some end with 255: " + ends + " " + restarts, ends >= 10 && restarts >= 10);
     }
 
     private static Stream anyStream(Random random, int n, int bits) {

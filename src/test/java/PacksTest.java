@@ -26,6 +26,8 @@ public final class PacksTest {
 
     private static int[] data;
     private static int effort;
+    // how often a code of the lengths was made anew
+    private static int halved = 0;
 
     private static int[] match(int p, int to) {
         int[] best = {0, 0};
@@ -223,6 +225,7 @@ public final class PacksTest {
         }
         int[] lengths = ownLengths(counts);
         while (Arrays.stream(lengths).max().getAsInt() > 7) {
+            halved++;
             for (int s = 0; s < 19; s++) {
                 counts[s] = (counts[s] + 1) / 2;
             }
@@ -378,8 +381,8 @@ public final class PacksTest {
     }
 
     private static int[] someBytes(Random random) {
-        int sort = random.nextInt(7);
-        int n = random.nextInt(8) == 0 ? random.nextInt(4) : random.nextInt(513);
+        int sort = random.nextInt(9);
+        int n = random.nextInt(8) == 0 ? random.nextInt(4) : sort > 6 ? 512 - random.nextInt(3) : random.nextInt(513);
         int[] bytes = new int[n];
         int few = 1 + random.nextInt(6);
         for (int i = 0; i < n; i++) {
@@ -389,6 +392,8 @@ public final class PacksTest {
                 case 2: bytes[i] = 7; break;
                 case 3: bytes[i] = i > 20 && random.nextInt(9) > 0 ? bytes[i - 11 - few] : random.nextInt(256); break;
                 case 4: bytes[i] = i < 200 ? random.nextInt(256) : random.nextInt(8) * random.nextInt(8); break;
+                case 7: bytes[i] = (int) (256 * Math.pow(random.nextDouble(), 2 + few)); break;
+                case 8: bytes[i] = random.nextInt(3) > 0 ? random.nextInt(8) : random.nextInt(256); break;
                 case 5: bytes[i] = (int) Math.min(255, Math.abs(random.nextGaussian()) * few * 9); break;
                 default: bytes[i] = "the house of pictures, the sheets and the files ".charAt(i * (1 + i / 160) % 48);
             }
@@ -417,7 +422,7 @@ public final class PacksTest {
 
     private static void sameAsReference() throws DataFormatException {
         Random random = new Random(11);
-        for (int run = 0; run < 250; run++) {
+        for (int run = 0; run < 300; run++) {
             data = someBytes(random);
             PictureCodingHouse house = new PictureCodingHouse();
             Checks.load(house, 4, data);
@@ -432,6 +437,7 @@ public final class PacksTest {
             Checks.same("unpacked", data, Checks.file(house, 5));
             Checks.same("pack into itself", due.length, house.pack(4, effort, 4));
         }
+        Checks.holds("codes of lengths were made anew " + halved, halved > 20);
     }
 
     private static void wrongCalls() {
@@ -556,6 +562,15 @@ public final class PacksTest {
         String stored = "000" + "00000" + low(0, 16) + low(0xFFFF, 16);
         broken("too few", stored + stored + FIXED + literal(256), 4, 2);
         PictureCodingHouse house = new PictureCodingHouse();
+        StringBuilder over = new StringBuilder(FIXED + literal(65));
+        for (int i = 0; i < 5; i++) {
+            over.append(literal(285)).append("00000");
+        }
+        over.append(literal(lengthCode(209)[0])).append(low(lengthCode(209)[2], lengthCode(209)[1])).append("00000");
+        broken("1501 bytes", over.toString() + literal(65) + literal(256), 3, 0);
+        broken("1501 bytes, stored", "000" + "00000" + low(600, 16) + low(~600 & 0xFFFF, 16) + low(7, 8).repeat(600)
+                + "010" + literal(285) + "00000" + literal(285) + "00000" + literal(285) + "00000" + literal(281)
+                + low(0, 5) + "00000" + literal(256), 3, 0);
         int[] thousand = new int[1500];
         StringBuilder full = new StringBuilder(FIXED + literal(0));
         for (int i = 0; i < 5; i++) {
