@@ -272,6 +272,8 @@ public final class AlbumsTest {
         Checks.same("render itself", 4, house.render(0, 1, 3, 2, 0));
         Checks.samePicture("render", house, 0, new int[][] {{0, 1, 2}, {0, 4, 5}});
         Checks.sameMask("render", house, 0, new boolean[][] {{false, true, true}, {false, true, true}});
+        Checks.same("render of one", 1, house.render(2, 1, 1, 1, 2));
+        Checks.samePicture("render of one", house, 2, new int[][] {{1}});
         Checks.same("render of nothing", 0, house.render(20, 20, 12, 12, 1));
         Checks.same("render of nothing", 0, house.size(0, 1, 2));
         Checks.same("render of nothing", 12, house.size(0, 1, 0));

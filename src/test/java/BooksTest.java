@@ -141,12 +141,12 @@ public final class BooksTest {
             int n = 1 + random.nextInt(4);
             int s = random.nextInt(5 - n);
             int order = random.nextInt(3);
-            int stripes = random.nextBoolean() ? 0 : 1 + random.nextInt(24);
+            int stripes = random.nextBoolean() ? 0 : 1 + random.nextInt(random.nextBoolean() ? 3 : 24);
             Book book = new Book();
             String[][] sheets = new String[n][];
             for (int i = 0; i < n; i++) {
                 int w = 1 + random.nextInt(24);
-                int h = 1 + random.nextInt(24);
+                int h = 1 + random.nextInt(stripes > 0 && stripes < 4 ? 6 : 24);
                 int few = 1 + random.nextInt(300);
                 String[] rows = new String[h];
                 for (int y = 0; y < h; y++) {
@@ -284,6 +284,10 @@ public final class BooksTest {
         sameRead("kept", new Book().add(48, 1, page(4, 2, 0, 0)).add(4, 1, region(0, 0, 4, "#.#", ".##"))
                 .refer(6, 3, new int[] {1}, 1, region(1, 0, 4, "##.", "#.."))
                 .refer(6, 1, new int[] {1}, 1, region(0, 0, 2, "#.#", ".##")).add(49, 1), 1, "..##", ".###");
+        sameRead("kept, wide", new Book().add(48, 1, page(12, 2, 0, 0))
+                .add(4, 1, region(0, 0, 4, "#.#.........", "...#....#..#"))
+                .refer(6, 3, new int[] {1}, 1, region(0, 0, 4, "##.......#..", "...........#")).add(49, 1),
+                1, ".##......#..", "...#....#...");
         Book many = new Book();
         for (int i = 0; i < 10; i++) {
             many.add(i % 2 == 0 ? 0 : 53, 0);
@@ -339,6 +343,9 @@ public final class BooksTest {
         Book twice = new Book().add(0, 0);
         twice.number = 0;
         wrong("number not above", 3, twice.add(0, 0));
+        int[] nine = Checks.first(Checks.altered(Checks.altered(head, 5, 224), 2, 1), 9);
+        broken("nine bytes are enough to look at the number", 2, nine, 3, 0);
+        broken("six bytes are enough to look at the number", 2, Checks.first(Checks.altered(head, 2, 1), 6), 3, 0);
         Book last = new Book();
         last.number = 255;
         broken("number 255 may be", 2, last.add(49, 1).file(2, 0), 6, 0);
@@ -465,6 +472,7 @@ public final class BooksTest {
         wrong("filled", 8, begun().open(1, Checks.altered(open, 18, 16)));
         wrong("no row", 8, begun().open(1, Checks.joined(Checks.first(open, 17), new int[] {255, 172, 0, 0, 0, 0})));
         wrong("a value", 8, begun().open(1, Checks.altered(open, 3, 17)));
+        wrong("a value, and the bytes end", 8, begun().open(1, Checks.first(Checks.altered(open, 3, 17), 17)));
         int[] cut = Checks.first(Checks.altered(open, 20, 1), 21);
         wrong("filled, and the bytes end", 8, begun().open(1, cut));
         Book book = begun().open(1, open);

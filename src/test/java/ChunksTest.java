@@ -12,6 +12,7 @@ public final class ChunksTest {
         wrongCalls();
         written();
         readMore();
+        palettes();
         faultsOfFrames();
         faultsOfOrder();
         faultsOfValues();
@@ -152,6 +153,40 @@ public final class ChunksTest {
                         chunk("pHYs", 127, 255, 255, 255, 127, 255, 255, 255, 1), chunk("exTr", new int[40]),
                         chunk("aaAa"), chunk("IDAT"), chunk("IDAT", 0, 1), chunk("IDAT", 2), chunk("bbBb"),
                         chunk("ccCc"), wrongSum, chunk("ddDd"), chunk("IEND"), new int[] {1, 2, 3}));
+    }
+
+    private static void palettes() {
+        Random random = new Random(6);
+        for (int run = 0; run < 60; run++) {
+            int bits = 1 << random.nextInt(4);
+            int entries = 1 + random.nextInt(Math.min(64, 1 << bits));
+            int[] colours = new int[3 * entries];
+            for (int i = 0; i < colours.length; i++) {
+                colours[i] = random.nextInt(256);
+            }
+            int[] alphas = new int[random.nextInt(entries + 1)];
+            for (int i = 0; i < alphas.length; i++) {
+                alphas[i] = random.nextInt(3) * 100;
+            }
+            int w = 1 + random.nextInt(12);
+            int h = 1 + random.nextInt(6);
+            int[][] grey = new int[h][w];
+            boolean[][] inside = new boolean[h][w];
+            int[][] data = new int[h][];
+            for (int y = 0; y < h; y++) {
+                StringBuilder row = new StringBuilder("00000000");
+                for (int x = 0; x < w; x++) {
+                    int entry = random.nextInt(entries);
+                    grey[y][x] = (colours[3 * entry] + colours[3 * entry + 1] + colours[3 * entry + 2]) / 3;
+                    inside[y][x] = entry >= alphas.length || alphas[entry] != 0;
+                    row.append(Checks.bits(entry, bits));
+                }
+                data[y] = Checks.packed(row.toString());
+            }
+            int[] some = alphas.length == 0 ? NONE : chunk("tRNS", alphas);
+            sameRead("palette " + run, alphas.length == 0 ? 4 : 5, grey, inside,
+                    whole(head(w, h, bits, 3), chunk("PLTE", colours), some, chunk("IDAT", rows(data)), chunk("IEND")));
+        }
     }
 
     private static void broken(String what, int number, int place, int[]... chunks) {

@@ -16,6 +16,7 @@ public final class PacksTest {
         byHand();
         sameAsReference();
         readOthers();
+        readAnyTokens();
         faults();
         faultsOfCodes();
         anyBytes();
@@ -381,7 +382,7 @@ public final class PacksTest {
     }
 
     private static int[] someBytes(Random random) {
-        int sort = random.nextInt(9);
+        int sort = random.nextInt(11);
         int n = random.nextInt(8) == 0 ? random.nextInt(4) : sort > 6 ? 512 - random.nextInt(3) : random.nextInt(513);
         int[] bytes = new int[n];
         int few = 1 + random.nextInt(6);
@@ -392,6 +393,9 @@ public final class PacksTest {
                 case 2: bytes[i] = 7; break;
                 case 3: bytes[i] = i > 20 && random.nextInt(9) > 0 ? bytes[i - 11 - few] : random.nextInt(256); break;
                 case 4: bytes[i] = i < 200 ? random.nextInt(256) : random.nextInt(8) * random.nextInt(8); break;
+                // blocks of other kinds: text and any bytes in turn, any bytes that come again
+                case 9: bytes[i] = i / 128 % 2 == few % 2 ? 97 + random.nextInt(3) : random.nextInt(256); break;
+                case 10: bytes[i] = i < 60 || random.nextInt(20) == 0 ? random.nextInt(256) : bytes[i % 60]; break;
                 case 7: bytes[i] = (int) (256 * Math.pow(random.nextDouble(), 2 + few)); break;
                 case 8: bytes[i] = random.nextInt(3) > 0 ? random.nextInt(8) : random.nextInt(256); break;
                 case 5: bytes[i] = (int) Math.min(255, Math.abs(random.nextGaussian()) * few * 9); break;
@@ -500,6 +504,41 @@ public final class PacksTest {
                     adler(bytes)));
             Checks.same("unpack " + run, bytes.length, house.unpack(0, 1));
             Checks.same("unpack", bytes, Checks.file(house, 1));
+        }
+    }
+
+    /** Fixed blocks of any literals, lengths and distances, up to 1500 bytes. */
+    private static void readAnyTokens() {
+        Random random = new Random(14);
+        for (int run = 0; run < 60; run++) {
+            List<int[]> tokens = new ArrayList<>();
+            List<Integer> plain = new ArrayList<>();
+            int target = 1200 + random.nextInt(301);
+            while (plain.size() < target) {
+                int left = target - plain.size();
+                if (plain.size() < 40 || left < 3 || random.nextInt(3) == 0) {
+                    int v = random.nextInt(256);
+                    tokens.add(new int[] {v});
+                    plain.add(v);
+                } else {
+                    int length = Math.min(left, 3 + (random.nextInt(4) == 0 ? random.nextInt(256) : random.nextInt(20)));
+                    int distance = 1 + random.nextInt(plain.size());
+                    tokens.add(new int[] {length, distance});
+                    for (int i = 0; i < length; i++) {
+                        plain.add(plain.get(plain.size() - distance));
+                    }
+                }
+            }
+            String text = "1" + "10" + body(tokens, fixedLiterals(), fixedDistances());
+            int[] due = Checks.bytes(plain);
+            int[] file = Checks.joined(new int[] {80, 3, due.length >> 8, due.length & 255}, Checks.packedLow(text),
+                    adler(due));
+            if (file.length <= 1208) {
+                PictureCodingHouse house = new PictureCodingHouse();
+                Checks.load(house, 0, file);
+                Checks.same("any tokens", due.length, house.unpack(0, 1));
+                Checks.same("any tokens", due, Checks.file(house, 1));
+            }
         }
     }
 

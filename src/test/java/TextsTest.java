@@ -50,6 +50,7 @@ public final class TextsTest {
         Checks.same("symbols", 2, house.parts(0, 1));
         Checks.drawSheet(house, 0, "########", "........", "#########".substring(1));
         Checks.same("symbols", 1, house.parts(0, 1));
+        greatBoxes();
         Checks.drawSheet(house, 0, "#########");
         Checks.same("too wide", -1, house.parts(0, 1));
         Checks.same("too wide", 1, house.parts(0, 0));
@@ -74,6 +75,29 @@ public final class TextsTest {
         Checks.holds("40 parts", house.text(0, 0, 0, 3) > 0);
         Checks.same("untext", 40, house.untext(3, 1));
         many();
+    }
+
+    /** Boxes of 8 times 8 samples, that differ in their last sample alone. */
+    private static void greatBoxes() {
+        PictureCodingHouse house = new PictureCodingHouse();
+        house.sheet(0, 20, 20);
+        for (int y = 0; y < 8; y++) {
+            house.ink(0, 0, y, 8, true);
+            house.ink(0, 10, y, 8, true);
+            house.ink(0, 0, 10 + y, 8, true);
+        }
+        Checks.same("parts", 3, house.parts(0, 0));
+        Checks.same("one symbol", 1, house.parts(0, 1));
+        // its box stays, as its sides do
+        house.ink(0, 17, 7, 1, false);
+        house.ink(0, 7, 17, 1, false);
+        Checks.same("two symbols", 2, house.parts(0, 1));
+        Checks.holds("text", house.text(0, 1, 0, 0) > 0);
+        Checks.same("untext", 3, house.untext(0, 1));
+        Checks.same("apart", 0, house.apart(0, 1));
+        Checks.same("the second symbol's last row", 254, house.byteAt(0, 5 + 10 + 9));
+        house.ink(0, 0, 8, 1, true);
+        Checks.same("too high", -1, house.parts(0, 1));
     }
 
     /** 17 symbols are too many for a text, but are counted. */
