@@ -164,6 +164,59 @@ final class Checks {
         return bytes;
     }
 
+    // ---- codes
+
+    /** Lengths of codes by counts: the two least are joined till one is left. */
+    static int[] joinedLengths(int[] counts) {
+        List<List<Integer>> nodes = new ArrayList<>();
+        List<Integer> weights = new ArrayList<>();
+        for (int s = 0; s < counts.length; s++) {
+            if (counts[s] > 0) {
+                nodes.add(List.of(s));
+                weights.add(counts[s]);
+            }
+        }
+        int[] lengths = new int[counts.length];
+        if (nodes.size() == 1) {
+            lengths[nodes.get(0).get(0)] = 1;
+        }
+        while (nodes.size() > 1) {
+            List<Integer> joined = new ArrayList<>();
+            int weight = 0;
+            for (int pick = 0; pick < 2; pick++) {
+                int least = 0;
+                for (int i = 1; i < nodes.size(); i++) {
+                    if (weights.get(i) < weights.get(least)) {
+                        least = i;
+                    }
+                }
+                joined.addAll(nodes.remove(least));
+                weight += weights.remove(least);
+            }
+            for (int s : joined) {
+                lengths[s]++;
+            }
+            nodes.add(joined);
+            weights.add(weight);
+        }
+        return lengths;
+    }
+
+    /** Codes by lengths, from the shortest on, then by symbols; null for one that has none. */
+    static String[] codes(int[] lengths) {
+        String[] codes = new String[lengths.length];
+        int next = 0;
+        for (int length = 1; length <= 15; length++) {
+            next <<= 1;
+            for (int s = 0; s < lengths.length; s++) {
+                if (lengths[s] == length) {
+                    codes[s] = bits(next++, length);
+                }
+            }
+        }
+        return codes;
+    }
+
     // ---- pictures and sheets
 
     static void draw(PictureCodingHouse house, int k, int[][] grey) {

@@ -92,55 +92,6 @@ public final class PacksTest {
         }
     }
 
-    private static int[] ownLengths(int[] counts) {
-        List<List<Integer>> nodes = new ArrayList<>();
-        List<Integer> weights = new ArrayList<>();
-        for (int s = 0; s < counts.length; s++) {
-            if (counts[s] > 0) {
-                nodes.add(List.of(s));
-                weights.add(counts[s]);
-            }
-        }
-        int[] lengths = new int[counts.length];
-        if (nodes.size() == 1) {
-            lengths[nodes.get(0).get(0)] = 1;
-        }
-        while (nodes.size() > 1) {
-            List<Integer> joined = new ArrayList<>();
-            int weight = 0;
-            for (int pick = 0; pick < 2; pick++) {
-                int least = 0;
-                for (int i = 1; i < nodes.size(); i++) {
-                    if (weights.get(i) < weights.get(least)) {
-                        least = i;
-                    }
-                }
-                joined.addAll(nodes.remove(least));
-                weight += weights.remove(least);
-            }
-            for (int s : joined) {
-                lengths[s]++;
-            }
-            nodes.add(joined);
-            weights.add(weight);
-        }
-        return lengths;
-    }
-
-    private static String[] codes(int[] lengths) {
-        String[] codes = new String[lengths.length];
-        int next = 0;
-        for (int length = 1; length <= 15; length++) {
-            next <<= 1;
-            for (int s = 0; s < lengths.length; s++) {
-                if (lengths[s] == length) {
-                    codes[s] = Checks.bits(next++, length);
-                }
-            }
-        }
-        return codes;
-    }
-
     private static String low(int v, int n) {
         return new StringBuilder(Checks.bits(v, n)).reverse().toString();
     }
@@ -157,12 +108,12 @@ public final class PacksTest {
                 distances[distanceCode(token[1])[0]]++;
             }
         }
-        return new int[][] {ownLengths(literals), ownLengths(distances)};
+        return new int[][] {Checks.joinedLengths(literals), Checks.joinedLengths(distances)};
     }
 
     private static String body(List<int[]> tokens, int[] literalLengths, int[] distanceLengths) {
-        String[] literals = codes(literalLengths);
-        String[] distances = codes(distanceLengths);
+        String[] literals = Checks.codes(literalLengths);
+        String[] distances = Checks.codes(distanceLengths);
         StringBuilder text = new StringBuilder();
         for (int[] token : tokens) {
             if (token.length == 1) {
@@ -224,13 +175,13 @@ public final class PacksTest {
         for (int[] one : told) {
             counts[one[0]]++;
         }
-        int[] lengths = ownLengths(counts);
+        int[] lengths = Checks.joinedLengths(counts);
         while (Arrays.stream(lengths).max().getAsInt() > 7) {
             halved++;
             for (int s = 0; s < 19; s++) {
                 counts[s] = (counts[s] + 1) / 2;
             }
-            lengths = ownLengths(counts);
+            lengths = Checks.joinedLengths(counts);
         }
         int n = 19;
         while (n > 4 && lengths[ORDER[n - 1]] == 0) {
@@ -240,7 +191,7 @@ public final class PacksTest {
         for (int i = 0; i < n; i++) {
             text.append(low(lengths[ORDER[i]], 3));
         }
-        String[] codes = codes(lengths);
+        String[] codes = Checks.codes(lengths);
         for (int[] one : told) {
             text.append(codes[one[0]]).append(low(one[2], one[1]));
         }
@@ -563,7 +514,7 @@ public final class PacksTest {
     private static final String FIXED = "110";
 
     private static String literal(int v) {
-        return codes(fixedLiterals())[v];
+        return Checks.codes(fixedLiterals())[v];
     }
 
     private static void faults() {
@@ -638,7 +589,7 @@ public final class PacksTest {
         lengths[1] = 2;
         lengths[16] = 2;
         lengths[18] = 2;
-        String[] codes = codes(lengths);
+        String[] codes = Checks.codes(lengths);
         String zeros138 = codes[18] + low(127, 7);
         String front = ownFront(257, 1, lengths);
         int row = front.length();
@@ -676,7 +627,7 @@ public final class PacksTest {
         twos[1] = 2;
         twos[2] = 2;
         twos[18] = 2;
-        String[] twoCodes = codes(twos);
+        String[] twoCodes = Checks.codes(twos);
         String wide = ownFront(257, 2, twos) + twoCodes[18] + low(127, 7) + twoCodes[18] + low(117 - 11, 7)
                 + twoCodes[1] + twoCodes[1];
         broken("distances are not full", wide + twoCodes[2] + twoCodes[0], 2, 0);
@@ -705,7 +656,7 @@ public final class PacksTest {
         lengths[1] = 2;
         lengths[2] = 2;
         lengths[18] = 2;
-        String[] codes = codes(lengths);
+        String[] codes = Checks.codes(lengths);
         String front = ownFront(258, 1, lengths) + codes[2] + codes[18] + low(127, 7) + codes[18]
                 + low(117 - 11, 7) + codes[2] + codes[1];
         String none = front + codes[0];

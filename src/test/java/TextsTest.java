@@ -193,48 +193,6 @@ public final class TextsTest {
         collect(rows, seen, x, y - 1, dots);
     }
 
-    private static int[] lengths(int[] counts) {
-        List<List<Integer>> nodes = new ArrayList<>();
-        List<Integer> weights = new ArrayList<>();
-        for (int s = 0; s < counts.length; s++) {
-            nodes.add(List.of(s));
-            weights.add(counts[s]);
-        }
-        int[] lengths = new int[counts.length];
-        if (counts.length == 1) {
-            lengths[0] = 1;
-        }
-        while (nodes.size() > 1) {
-            List<Integer> joined = new ArrayList<>();
-            int weight = 0;
-            for (int pick = 0; pick < 2; pick++) {
-                int least = weights.indexOf(weights.stream().min(Integer::compare).get());
-                joined.addAll(nodes.remove(least));
-                weight += weights.remove(least);
-            }
-            for (int s : joined) {
-                lengths[s]++;
-            }
-            nodes.add(joined);
-            weights.add(weight);
-        }
-        return lengths;
-    }
-
-    private static String[] codes(int[] lengths) {
-        String[] codes = new String[lengths.length];
-        int next = 0;
-        for (int length = 1; length <= 15; length++) {
-            next <<= 1;
-            for (int s = 0; s < lengths.length; s++) {
-                if (lengths[s] == length) {
-                    codes[s] = Checks.bits(next++, length);
-                }
-            }
-        }
-        return codes;
-    }
-
     private static String number(int n) {
         return Checks.counted(n + 1);
     }
@@ -248,8 +206,8 @@ public final class TextsTest {
         for (String shape : shapes) {
             counts[symbols.indexOf(shape)]++;
         }
-        int[] lengths = lengths(counts);
-        String[] codes = codes(lengths);
+        int[] lengths = Checks.joinedLengths(counts);
+        String[] codes = Checks.codes(lengths);
         StringBuilder text = new StringBuilder(number(order.size()) + "00000000");
         if (naming == 0) {
             for (int length : lengths) {
