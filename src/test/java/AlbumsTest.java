@@ -505,6 +505,15 @@ public final class AlbumsTest {
         if (map[0].length != house.told(1) || map.length != house.told(2)) {
             return;
         }
+        java.util.Set<Integer> tiles = new java.util.HashSet<>();
+        for (int[][] row : map) {
+            for (int[] at : row) {
+                if (at != null) {
+                    tiles.add(at[0]);
+                }
+            }
+        }
+        Checks.same("tiles", tiles.size(), house.told(3));
         for (int y = 0; y < map.length; y += 1 + map.length / 60) {
             for (int x = 0; x < map[0].length; x++) {
                 int[] at = map[y][x];

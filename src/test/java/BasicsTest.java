@@ -69,6 +69,10 @@ public final class BasicsTest {
         Checks.same("put none other", 0, house.put(7, 0, 0, 12, 0));
         Checks.same("put", 3, house.put(7, 2, 0, 3, 255));
         Checks.same("put", 10, house.put(7, 2, 0, Integer.MAX_VALUE, 7));
+        house.put(7, 5, 0, 1, 9);
+        house.put(7, 6, 0, 1, 3);
+        Checks.same("put where some are so", 1, house.put(7, 3, 0, 3, 7));
+        Checks.same("put where one is so", 3, house.put(7, 4, 0, 3, 3) + house.put(7, 4, 0, 3, 7) - 2);
         Checks.same("at", 0, house.at(7, 1, 0));
         Checks.same("at", 7, house.at(7, 11, 0));
         Checks.same("shape", 2, house.shape(7, 10, 0, 99, false));

@@ -288,6 +288,9 @@ public final class BooksTest {
                 .add(4, 1, region(0, 0, 4, "#.#.........", "...#....#..#"))
                 .refer(6, 3, new int[] {1}, 1, region(0, 0, 4, "##.......#..", "...........#")).add(49, 1),
                 1, ".##......#..", "...#....#...");
+        sameRead("kept, of 8 columns", new Book().add(48, 1, page(8, 2, 0, 0))
+                .add(4, 1, region(0, 0, 4, "#.#.....", "...#....")).refer(6, 3, new int[] {1}, 1,
+                region(0, 0, 4, "##......", ".......#")).add(49, 1), 1, ".##.....", "...#...#");
         Book many = new Book();
         for (int i = 0; i < 10; i++) {
             many.add(i % 2 == 0 ? 0 : 53, 0);
@@ -311,6 +314,7 @@ public final class BooksTest {
         int[] empty = new Book().add(51, 0).file(0, 0);
         broken("12 bytes", 0, Checks.first(empty, 12), 1, 12);
         broken("12 bytes", 1, new int[12], 1, 12);
+        broken("13 bytes", 1, new int[13], 2, 0);
         for (int i = 0; i < 9; i++) {
             broken("front " + i, 0, Checks.altered(empty, i, 2), 2, 0);
         }

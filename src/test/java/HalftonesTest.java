@@ -133,13 +133,28 @@ public final class HalftonesTest {
         return text.append(run(run)).toString();
     }
 
+    /** A few rows of one value, then others: states go far up and down. */
+    private static void areas(Random random, int[][] v) {
+        int value = random.nextInt(256);
+        for (int[] row : v) {
+            value = random.nextInt(4) == 0 ? random.nextInt(256) : value;
+            for (int x = 0; x < row.length; x++) {
+                value = random.nextInt(20) == 0 ? random.nextInt(256) : value;
+                row[x] = value;
+            }
+        }
+    }
+
     private static void sameAsReference() {
         Random random = new Random(21);
-        for (int run = 0; run < 250; run++) {
+        for (int run = 0; run < 600; run++) {
             int w = 1 + random.nextInt(12);
             int h = 1 + random.nextInt(12);
             int q = 1 + random.nextInt(2);
             int[][] v = Checks.greys(random, w, h, 255);
+            if (run % 3 == 0) {
+                areas(random, v);
+            }
             boolean[][] inside = Checks.maskOf(random, w, h);
             PictureCodingHouse house = new PictureCodingHouse();
             Checks.draw(house, 0, v);

@@ -377,11 +377,11 @@ public final class PacksTest {
 
     private static void sameAsReference() throws DataFormatException {
         Random random = new Random(11);
-        for (int run = 0; run < 300; run++) {
+        for (int run = 0; run < 500; run++) {
             data = someBytes(random);
             PictureCodingHouse house = new PictureCodingHouse();
             Checks.load(house, 4, data);
-            effort = run % 10;
+            effort = run < 200 ? run % 10 : 7 + run % 3;
             int[] due = reference();
             Checks.same("pack", due.length, house.pack(4, effort, 5));
             Checks.same("pack by " + effort + " run " + run, due, Checks.file(house, 5));
@@ -419,6 +419,15 @@ public final class PacksTest {
         Checks.same("empty, fixed", 10, house.pack(0, 1, 1));
         Checks.same("empty, fixed", new int[] {80, 1, 0, 0, 3, 0, 0, 0, 0, 1}, Checks.file(house, 1));
         Checks.same("unpack", 0, house.unpack(1, 2));
+        // 32 bytes of nine bits each: the fixed codes take as many bits as storing, which is the lower kind
+        for (int i = 0; i < 32; i++) {
+            house.feed(3, 144 + i * 7 / 2);
+        }
+        Checks.same("a tie", 8 + 5 + 32, house.pack(3, 3, 1));
+        Checks.same("a tie", 1, house.byteAt(1, 4));
+        house.alter(3, 8, 99);
+        Checks.same("no tie", 8 + (3 + 8 + 31 * 9 + 7 + 7) / 8, house.pack(3, 3, 1));
+        Checks.same("no tie", 3, house.byteAt(1, 4) & 7);
     }
 
     private static void readOthers() throws DataFormatException {

@@ -406,6 +406,22 @@ public final class TextsTest {
         sameRead("alike after all", 1, number(1) + ways(0, 0, 0, 0) + number(16) + signed(0)
                 + number(1) + "1" + number(3) + "0", "#.......", light, "#.......", light, light, light);
         codesRead();
+        greatSymbol();
+    }
+
+    /** A symbol of 8 times 8 samples, all dark, that differs in its first one, and one that differs in its last one. */
+    private static void greatSymbol() {
+        PictureCodingHouse house = new PictureCodingHouse();
+        int[] head = {84, 1, 8, 8, 1, 8, 8, 255, 255, 255, 255, 255, 255, 255, 255};
+        String one = number(1) + ways(0, 0, 0, 4) + number(16) + signed(0) + number(0) + "1";
+        Checks.load(house, 0, Checks.joined(head, Checks.packed(one + number(0) + number(1) + number(63) + "0")));
+        Checks.same("differing in the first", 1, house.untext(0, 0));
+        Checks.same("differing in the first", 63, house.size(1, 0, 2));
+        Checks.holds("differing in the first", !house.isDark(0, 0, 0));
+        Checks.load(house, 0, Checks.joined(head, Checks.packed(one + number(63) + number(1) + "0")));
+        Checks.same("differing in the last", 1, house.untext(0, 0));
+        Checks.same("differing in the last", 63, house.size(1, 0, 2));
+        Checks.holds("differing in the last", !house.isDark(0, 7, 7));
     }
 
     private static void codesRead() {
