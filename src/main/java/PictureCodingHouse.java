@@ -1805,6 +1805,9 @@ public final class PictureCodingHouse {
         private static final int SQUARE = 8;
         private static final int PLANES_MOST = 20;
         private static final int ZEROS_MOST = 16;
+        private static final int SHUT = 0;
+        private static final int WAS_OPEN = 1;
+        private static final int NOW_OPEN = 2;
 
         // a head may tell of more samples than a picture can have before that is found wrong
         private final Grid points = new Grid(SAMPLES);
@@ -1984,34 +1987,49 @@ public final class PictureCodingHouse {
             for (int plane = planes - 1; plane >= 0 && !ended; plane--) {
                 for (int y = 0; y < points.height; y += SQUARE) {
                     for (int x = 0; x < points.width; x += SQUARE) {
-                        passSquare(x, y, SQUARE, plane);
+                        passSquare(x, y, plane);
                     }
                 }
             }
         }
 
-        private void passSquare(int x, int y, int side, int plane) {
-            if (side < 1 || ended || !hasPoints(x, y, side)) {
-                return;
+        /** Goes through a square of 8 samples: its samples come by quarters of quarters of quarters. */
+        private void passSquare(int left, int upper, int plane) {
+            int i = 0;
+            while (i < SQUARE * SQUARE) {
+                int x = left + everySecondBit(i);
+                int y = upper + everySecondBit(i >> 1);
+                int state = WAS_OPEN;
+                int passed = 1;
+                // squares that begin here, the greatest first; one that stays shut is left whole
+                for (int side = SQUARE; side >= 1 && state != SHUT; side /= 2) {
+                    if (i % Math.max(1, side * side) == 0) {
+                        state = openSquare(x, y, side, plane);
+                        passed = state == SHUT ? side * side : 1;
+                    }
+                }
+                if (state != SHUT) {
+                    passPoint(x, y, plane, state == WAS_OPEN);
+                }
+                i += Math.max(1, passed);
+            }
+        }
+
+        private static int everySecondBit(int i) {
+            return i & 1 | i >> 1 & 2 | i >> 2 & 4;
+        }
+
+        /** Whether a square was open, is so now, or stays shut, when the bit that tells it has passed. */
+        private int openSquare(int x, int y, int side, int plane) {
+            if (ended || !hasPoints(x, y, side)) {
+                return SHUT;
             }
             int i = openPlace(x, y, side);
-            boolean wasOpen = open[i];
-            if (!wasOpen) {
-                int bit = pass(!reading && greatestIn(x, y, side) >> plane != 0 ? 1 : 0);
-                if (bit == 0 || ended) {
-                    return;
-                }
-                open[i] = true;
+            if (open[i]) {
+                return WAS_OPEN;
             }
-            if (side == 1) {
-                passPoint(x, y, plane, wasOpen);
-                return;
-            }
-            int half = side / 2;
-            passSquare(x, y, half, plane);
-            passSquare(x + half, y, half, plane);
-            passSquare(x, y + half, half, plane);
-            passSquare(x + half, y + half, half, plane);
+            open[i] = pass(!reading && greatestIn(x, y, side) >> plane != 0 ? 1 : 0) == 1;
+            return open[i] ? NOW_OPEN : SHUT;
         }
 
         private void passPoint(int x, int y, int plane, boolean wasOpen) {
