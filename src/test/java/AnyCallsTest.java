@@ -10,7 +10,7 @@ public final class AnyCallsTest {
             PictureCodingHouse house = new PictureCodingHouse();
             for (int i = 0; i < 512; i++) {
                 boolean isTold = i % 16 == 0;
-                String before = isTold ? state(house) : "";
+                String before = isTold ? Checks.snapshot(house) : "";
                 int which = random.nextInt(70);
                 boolean changes = true;
                 try {
@@ -23,7 +23,7 @@ public final class AnyCallsTest {
                             || c == UnsupportedOperationException.class);
                 }
                 if (isTold && !changes) {
-                    Checks.holds("call " + which + " throws and changes nothing", before.equals(state(house)));
+                    Checks.holds("call " + which + " throws and changes nothing", before.equals(Checks.snapshot(house)));
                 }
             }
         }
@@ -106,55 +106,5 @@ public final class AnyCallsTest {
 
     private static int sizeOf(PictureCodingHouse h, int f) {
         return f >= 0 && f < 12 ? h.size(2, f, 0) : 0;
-    }
-
-    private static String state(PictureCodingHouse h) {
-        StringBuilder text = new StringBuilder();
-        for (int k = 0; k < 8; k++) {
-            int w = h.size(0, k, 0);
-            int high = h.size(0, k, 1);
-            text.append(w).append('x').append(high).append(' ');
-            for (int y = 0; y < high; y++) {
-                for (int x = 0; x < w; x++) {
-                    text.append(h.at(k, x, y)).append(h.isInside(k, x, y) ? '+' : '-');
-                }
-            }
-            try {
-                text.append(h.value(k));
-            } catch (IllegalStateException e) {
-                text.append("none");
-            }
-            for (int other = 0; other < 8; other++) {
-                text.append(h.waited(k, other)).append(' ');
-            }
-        }
-        for (int s = 0; s < 4; s++) {
-            text.append(h.size(1, s, 0)).append('x').append(h.size(1, s, 1)).append(' ');
-            if (h.size(1, s, 0) > 0) {
-                text.append(String.join("/", Checks.sheet(h, s)));
-            }
-        }
-        for (int f = 0; f < 12; f++) {
-            text.append(java.util.Arrays.toString(Checks.file(h, f)));
-        }
-        for (int what = 0; what <= 16; what++) {
-            text.append(h.told(what)).append(' ');
-        }
-        for (int t = 0; t < h.told(3); t++) {
-            for (int what = 0; what < 8; what++) {
-                text.append(h.tile(t, what)).append(' ');
-            }
-        }
-        for (int i = 0; i < h.told(15); i++) {
-            text.append(h.finished(i)).append(' ');
-        }
-        for (int side = 0; side < 4; side++) {
-            try {
-                text.append(h.near(side)).append(' ');
-            } catch (IllegalStateException e) {
-                text.append("none ");
-            }
-        }
-        return text.append(h.fault(0)).append(' ').append(h.fault(1)).toString();
     }
 }

@@ -42,7 +42,7 @@ public final class BooksTest {
     }
 
     /** A book as heads and data, one for each segment. */
-    private static final class Book {
+    static final class Book {
         final List<int[]> heads = new ArrayList<>();
         final List<int[]> data = new ArrayList<>();
         int number = 0;
@@ -105,7 +105,7 @@ public final class BooksTest {
         }
     }
 
-    private static int[] numbers(int... v) {
+    static int[] numbers(int... v) {
         List<Integer> bytes = new ArrayList<>();
         for (int one : v) {
             Checks.addNumber(bytes, one, 4);
@@ -113,11 +113,11 @@ public final class BooksTest {
         return Checks.bytes(bytes);
     }
 
-    private static int[] page(int w, int h, int dark, int operator) {
+    static int[] page(int w, int h, int dark, int operator) {
         return Checks.joined(numbers(w, h), new int[] {dark, operator});
     }
 
-    private static int[] region(int x, int y, int operator, String... rows) {
+    static int[] region(int x, int y, int operator, String... rows) {
         int[] bytes = Checks.joined(numbers(rows[0].length(), rows.length, x, y), new int[] {operator});
         for (String row : rows) {
             bytes = Checks.joined(bytes, Checks.packed(row.replace('.', '0').replace('#', '1')));
@@ -126,7 +126,7 @@ public final class BooksTest {
     }
 
     /** A region of no told length, that tells a height, and has the rows. */
-    private static int[] open(int h, int x, int y, int operator, String... rows) {
+    static int[] open(int h, int x, int y, int operator, String... rows) {
         int[] bytes = Checks.joined(numbers(rows[0].length(), h, x, y), new int[] {operator});
         for (String row : rows) {
             bytes = Checks.joined(bytes, new int[] {1}, Checks.packed(row.replace('.', '0').replace('#', '1')));

@@ -1,6 +1,7 @@
 import java.util.ArrayList;
 import java.util.List;
 import java.util.Random;
+import java.util.function.IntSupplier;
 
 /** What the tests share: checks that print what is wrong, bytes and bits, and files of a house. */
 final class Checks {
@@ -327,5 +328,89 @@ final class Checks {
     static void noFault(String what, PictureCodingHouse house) {
         same(what + " fault", 0, house.fault(0));
         same(what + " place", PictureCodingHouse.NONE, house.fault(1));
+    }
+
+    // ---- what a house shows
+
+    /** All that can be told of a house without changing it. */
+    static String snapshot(PictureCodingHouse h) {
+        return things(h) + h.told(0) + ' ' + h.fault(0) + ' ' + h.fault(1);
+    }
+
+    /** The same without WORK and FAULT, which a reading call changes also where something is wrong. */
+    static String things(PictureCodingHouse h) {
+        StringBuilder text = new StringBuilder();
+        for (int k = 0; k < 8; k++) {
+            int w = h.size(0, k, 0);
+            int high = h.size(0, k, 1);
+            text.append(w).append('x').append(high).append(' ');
+            for (int y = 0; y < high; y++) {
+                for (int x = 0; x < w; x++) {
+                    text.append(h.at(k, x, y)).append(h.isInside(k, x, y) ? '+' : '-');
+                }
+            }
+            try {
+                text.append(h.value(k));
+            } catch (IllegalStateException e) {
+                text.append("none");
+            }
+            for (int other = 0; other < 8; other++) {
+                text.append(h.waited(k, other)).append(' ');
+            }
+        }
+        for (int s = 0; s < 4; s++) {
+            text.append(h.size(1, s, 0)).append('x').append(h.size(1, s, 1)).append(' ');
+            if (h.size(1, s, 0) > 0) {
+                text.append(String.join("/", sheet(h, s)));
+            }
+        }
+        for (int f = 0; f < 12; f++) {
+            text.append(java.util.Arrays.toString(file(h, f)));
+        }
+        for (int what = 1; what <= 16; what++) {
+            text.append(h.told(what)).append(' ');
+        }
+        for (int t = 0; t < h.told(3); t++) {
+            for (int what = 0; what < 8; what++) {
+                text.append(h.tile(t, what)).append(' ');
+            }
+        }
+        for (int i = 0; i < h.told(15); i++) {
+            text.append(h.finished(i)).append(' ');
+        }
+        for (int side = 0; side < 4; side++) {
+            try {
+                text.append(h.near(side)).append(' ');
+            } catch (IllegalStateException e) {
+                text.append("none ");
+            }
+        }
+        return text.toString();
+    }
+
+    // ---- calls that are refused, files that are wrong
+
+    /** Checks that a call throws this, and that nothing has changed behind it. */
+    static void refused(String what, Class<?> due, PictureCodingHouse house, Runnable call) {
+        String before = snapshot(house);
+        fails(what, due, call);
+        holds(what + " changes nothing", before.equals(snapshot(house)));
+    }
+
+    /** Checks that a reading call meets this fault at this place, and that nothing but the FAULT has changed. */
+    static void broken(String what, PictureCodingHouse house, int number, int place, IntSupplier call) {
+        String before = things(house);
+        int work = house.told(0);
+        sameFault(what, house, call.getAsInt(), number, place);
+        same(what + " is WORK", work + 1, house.told(0));
+        holds(what + " changes nothing", before.equals(things(house)));
+    }
+
+    /** Checks that a reading call answers this, and meets no fault. */
+    static void read(String what, PictureCodingHouse house, int due, IntSupplier call) {
+        int work = house.told(0);
+        same(what, due, call.getAsInt());
+        noFault(what, house);
+        same(what + " is WORK", work + 1, house.told(0));
     }
 }

@@ -21,7 +21,7 @@ public final class ChunksTest {
         Checks.end();
     }
 
-    private static int[] chunk(String letters, int... data) {
+    static int[] chunk(String letters, int... data) {
         List<Integer> bytes = new ArrayList<>();
         Checks.addNumber(bytes, data.length, 4);
         CRC32 sum = new CRC32();
@@ -37,7 +37,7 @@ public final class ChunksTest {
         return Checks.bytes(bytes);
     }
 
-    private static int[] head(int w, int h, int bits, int kind) {
+    static int[] head(int w, int h, int bits, int kind) {
         return chunk("IHDR", 0, 0, 0, w, 0, 0, 0, h, bits, kind, 0, 0, 0);
     }
 
@@ -45,7 +45,7 @@ public final class ChunksTest {
         return Checks.joined(rows);
     }
 
-    private static int[] whole(int[]... chunks) {
+    static int[] whole(int[]... chunks) {
         return Checks.joined(FRONT, Checks.joined(chunks));
     }
 

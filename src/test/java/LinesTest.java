@@ -18,8 +18,10 @@ public final class LinesTest {
     }
 
     /** A stream that is written piece by piece, plainly as the document tells it. */
-    private static final class Stream {
+    static final class Stream {
         final List<Integer> bytes = new ArrayList<>();
+        // where each MARK is, but for those of restarts
+        final List<Integer> places = new ArrayList<>();
         int bits = 8;
         int width;
         int height;
@@ -44,6 +46,7 @@ public final class LinesTest {
         }
 
         void mark(int code, int... segment) {
+            places.add(bytes.size());
             bytes.add(255);
             bytes.add(code);
             if (segment.length > 0 || code != 0xD8 && code != 0xD9) {

@@ -9,7 +9,7 @@ import java.util.zip.Inflater;
 
 /** Promise 9: pack and unpack. */
 public final class PacksTest {
-    private static final int[] ORDER = {16, 17, 18, 0, 8, 7, 9, 6, 10, 5, 11, 4, 12, 3, 13, 2, 14, 1, 15};
+    static final int[] ORDER = {16, 17, 18, 0, 8, 7, 9, 6, 10, 5, 11, 4, 12, 3, 13, 2, 14, 1, 15};
 
     public static void main(String[] args) throws DataFormatException {
         wrongCalls();
@@ -25,8 +25,8 @@ public final class PacksTest {
 
     // ---- a plain reading of the document
 
-    private static int[] data;
-    private static int effort;
+    static int[] data;
+    static int effort;
     // how often a code of the lengths was made anew
     private static int halved = 0;
 
@@ -67,7 +67,7 @@ public final class PacksTest {
         return tokens;
     }
 
-    private static int[] lengthCode(int length) {
+    static int[] lengthCode(int length) {
         if (length == 258) {
             return new int[] {285, 0, 0};
         }
@@ -81,7 +81,7 @@ public final class PacksTest {
         }
     }
 
-    private static int[] distanceCode(int distance) {
+    static int[] distanceCode(int distance) {
         int base = 1;
         for (int s = 0;; s++) {
             int extra = s < 4 ? 0 : (s - 2) / 2;
@@ -92,7 +92,7 @@ public final class PacksTest {
         }
     }
 
-    private static String low(int v, int n) {
+    static String low(int v, int n) {
         return new StringBuilder(Checks.bits(v, n)).reverse().toString();
     }
 
@@ -111,7 +111,7 @@ public final class PacksTest {
         return new int[][] {Checks.joinedLengths(literals), Checks.joinedLengths(distances)};
     }
 
-    private static String body(List<int[]> tokens, int[] literalLengths, int[] distanceLengths) {
+    static String body(List<int[]> tokens, int[] literalLengths, int[] distanceLengths) {
         String[] literals = Checks.codes(literalLengths);
         String[] distances = Checks.codes(distanceLengths);
         StringBuilder text = new StringBuilder();
@@ -136,7 +136,7 @@ public final class PacksTest {
         return used;
     }
 
-    private static String ownHead(int[] literals, int[] distances) {
+    static String ownHead(int[] literals, int[] distances) {
         int a = used(literals, 257);
         int b = used(distances, 1);
         int[] row = new int[a + b];
@@ -198,7 +198,7 @@ public final class PacksTest {
         return text.toString();
     }
 
-    private static int[] fixedLiterals() {
+    static int[] fixedLiterals() {
         int[] lengths = new int[288];
         Arrays.fill(lengths, 8);
         Arrays.fill(lengths, 144, 256, 9);
@@ -206,7 +206,7 @@ public final class PacksTest {
         return lengths;
     }
 
-    private static int[] fixedDistances() {
+    static int[] fixedDistances() {
         int[] lengths = new int[32];
         Arrays.fill(lengths, 5);
         return lengths;
@@ -269,7 +269,7 @@ public final class PacksTest {
         return best;
     }
 
-    private static int[] adler(int[] bytes) {
+    static int[] adler(int[] bytes) {
         Adler32 sum = new Adler32();
         for (int b : bytes) {
             sum.update(b);
@@ -279,7 +279,7 @@ public final class PacksTest {
         return Checks.bytes(list);
     }
 
-    private static int[] reference() {
+    static int[] reference() {
         int n = data.length;
         int blocks = Math.max(1, (n + 127) / 128);
         // all ways to cut, those with shorter first blocks first
@@ -356,7 +356,7 @@ public final class PacksTest {
         return bytes;
     }
 
-    private static int[] inflated(int[] file, int n) throws DataFormatException {
+    static int[] inflated(int[] file, int n) throws DataFormatException {
         byte[] coded = new byte[file.length - 8];
         for (int i = 0; i < coded.length; i++) {
             coded[i] = (byte) file[i + 4];
@@ -522,7 +522,7 @@ public final class PacksTest {
 
     private static final String FIXED = "110";
 
-    private static String literal(int v) {
+    static String literal(int v) {
         return Checks.codes(fixedLiterals())[v];
     }
 
@@ -584,7 +584,7 @@ public final class PacksTest {
     }
 
     /** Own codes told one by one: lengths of the lengths' code by their symbols. */
-    private static String ownFront(int a, int b, int[] lengths) {
+    static String ownFront(int a, int b, int[] lengths) {
         StringBuilder text = new StringBuilder("101" + low(a - 257, 5) + low(b - 1, 5) + low(15, 4));
         for (int symbol : ORDER) {
             text.append(low(lengths[symbol], 3));

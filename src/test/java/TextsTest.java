@@ -193,11 +193,11 @@ public final class TextsTest {
         collect(rows, seen, x, y - 1, dots);
     }
 
-    private static String number(int n) {
+    static String number(int n) {
         return Checks.counted(n + 1);
     }
 
-    private static String signed(int v) {
+    static String signed(int v) {
         return number(v >= 0 ? 2 * v : -2 * v - 1);
     }
 
@@ -345,11 +345,11 @@ public final class TextsTest {
     private static final int[] HEAD = {84, 1, 8, 6, 2, 2, 1, 192, 1, 3, 128, 0, 128};
 
     /** A text by NAMING 1 with a symbol of two dots and one of 1 times 3 samples, the middle one light. */
-    private static int[] text(String bits) {
+    static int[] text(String bits) {
         return Checks.joined(HEAD, Checks.packed(bits));
     }
 
-    private static String ways(int log, int turned, int corner, int operator) {
+    static String ways(int log, int turned, int corner, int operator) {
         return Checks.bits(log, 2) + turned + Checks.bits(corner, 2) + Checks.bits(operator, 3);
     }
 

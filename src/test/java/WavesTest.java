@@ -296,7 +296,7 @@ public final class WavesTest {
         Checks.same(what, -1, house.size(0, 0, 0));
     }
 
-    private static String head(int w, int h, int planes) {
+    static String head(int w, int h, int planes) {
         return Checks.bits(w - 1, 4) + Checks.bits(h - 1, 4) + Checks.bits(planes, 5);
     }
 
