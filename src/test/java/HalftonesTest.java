@@ -95,7 +95,7 @@ public final class HalftonesTest {
         return text;
     }
 
-    private static String encoded(int[][] grey, int q) {
+    static String encoded(int[][] grey, int q) {
         int w = grey[0].length;
         int h = grey.length;
         a = 4;

@@ -412,9 +412,11 @@ public final class HouseEdgesTest {
         makeAll(house);
         house.unline(0, 0);
         house.place(0, 0, 0);
+        house.crop(0, 0, 30, 20);
         house.turn(3);
         house.swap();
         house.place(0, 3, 3);
+        house.crop(0, 0, 11, 12);
         house.turn(5);
         for (int i = 0; i < 6; i++) {
             house.need(7, 0, 0, 1);
@@ -426,7 +428,7 @@ public final class HouseEdgesTest {
         Checks.same("no worker lives", -1, house.batch(1, 1, 0, 0));
         house.stop(3);
         Checks.same("stopped", 1, house.batch(1, 1, 0, 0));
-        Checks.same("refused", -1, house.crop(house.tile(0, 0) + 1, 0, 2, 40));
+        Checks.same("refused", -1, house.crop(house.tile(0, 0) + 1, 0, 2, 11));
         int work = house.told(0);
         house.clear();
         Checks.holds("all is as at first", first.equals(Checks.things(house)));

@@ -11,6 +11,7 @@ public final class PackEdgesTest {
         sizesOfBlocks();
         longestMatches();
         placesLookedAt();
+        closeCalls();
         mostBytes();
         cutAnywhere();
         fronts();
@@ -26,6 +27,7 @@ public final class PackEdgesTest {
         codesThatNoneHas();
         symbolsOfFixedCodes();
         beforeTheFirstByte();
+        extraBits();
         manyBytes();
         sums();
         behindTheEnd();
@@ -153,6 +155,19 @@ public final class PackEdgesTest {
         samePacked("a longer match at the next place", new int[] {1, 2, 3, 9, 2, 3, 4, 5, 8, 1, 2, 3, 4, 5, 7}, 4);
         samePacked("as long a match at the next place", new int[] {1, 2, 3, 9, 2, 3, 4, 8, 1, 2, 3, 4, 7}, 4);
         samePacked("by greed", new int[] {1, 2, 3, 9, 2, 3, 4, 5, 8, 1, 2, 3, 4, 5, 7}, 3);
+    }
+
+    /**
+     * Bytes for which one bit more or less would make other blocks, kinds or tokens: equal kinds ("of equal ones the
+     * lower"), equal ways to cut ("that with the shorter first block"), prices of 12 for what has no code.
+     */
+    private static void closeCalls() {
+        int[][] seedsAndEfforts = {{403, 7}, {419, 7}, {419, 8}, {804, 8}, {615, 7}, {2074, 8}, {355, 1}, {658, 1},
+            {470, 4}, {1484, 1}, {2199, 1}, {298, 8}, {237, 8}, {458, 2}, {225, 4}, {570, 8}, {775, 8}, {3167, 4},
+            {8419, 3}, {8709, 1}, {18816, 1}, {19923, 2}, {20638, 1}, {28541, 1}, {28860, 7}, {34404, 2}, {45008, 4}};
+        for (int[] one : seedsAndEfforts) {
+            samePacked("bytes " + one[0], PacksTest.someBytes(new Random(one[0])), one[1]);
+        }
     }
 
     /** "IllegalState: it has more than 512 bytes." */
@@ -548,6 +563,31 @@ public final class PackEdgesTest {
         brokenAt("of no bytes", FIXED + match(3, 1) + "0".repeat(9), 3);
         right("a distance over blocks", before(2) + FIXED + match(3, 2) + literal(256), plain(5));
         brokenAt("a distance before all blocks", before(2) + FIXED + match(3, 3) + literal(256), before(2).length() + 3);
+    }
+
+    /** Each distance symbol wants its extra bits, all of them and no more, before it is found too far. */
+    private static void extraBits() {
+        for (int symbol = 0; symbol < 30; symbol++) {
+            int extra = symbol < 4 ? 0 : (symbol - 2) / 2;
+            int wanted = 0;
+            for (int i = 0; i < 8; i++) {
+                String bits = "010" + literal(200).repeat(i) + literal(256) + FIXED;
+                String whole = bits + literal(257) + Checks.bits(symbol, 5) + "0".repeat(extra);
+                if (whole.length() % 8 == 0) {
+                    boolean isFar = PacksTest.distanceCode(Math.max(1, i))[0] < symbol || i == 0;
+                    if (isFar) {
+                        brokenAt("just all bits of " + symbol, whole, bits.length());
+                    } else {
+                        tooShort("just all bits of " + symbol + ", and no end", whole);
+                    }
+                    wanted++;
+                } else if (whole.length() % 8 == 1) {
+                    tooShort("one bit less of " + symbol, whole.substring(0, whole.length() - 1));
+                    wanted++;
+                }
+            }
+            Checks.same("both were looked at", 2, wanted);
+        }
     }
 
     /** "or there would be more than 1500 bytes". */

@@ -332,7 +332,7 @@ public final class PacksTest {
         return Checks.joined(new int[] {80, effort, n >> 8, n & 255}, Checks.packedLow(text.toString()), adler(data));
     }
 
-    private static int[] someBytes(Random random) {
+    static int[] someBytes(Random random) {
         int sort = random.nextInt(11);
         int n = random.nextInt(8) == 0 ? random.nextInt(4) : sort > 6 ? 512 - random.nextInt(3) : random.nextInt(513);
         int[] bytes = new int[n];

@@ -140,11 +140,11 @@ public final class TextsTest {
 
     // ---- a plain reading of the document
 
-    private static List<int[]> boxes;
+    static List<int[]> boxes;
     private static List<String> shapes;
-    private static List<String> symbols;
+    static List<String> symbols;
 
-    private static void study(String[] rows) {
+    static void study(String[] rows) {
         boxes = new ArrayList<>();
         shapes = new ArrayList<>();
         symbols = new ArrayList<>();
@@ -245,7 +245,7 @@ public final class TextsTest {
         return text.toString();
     }
 
-    private static int[] reference(String[] rows, int naming, int tries) {
+    static int[] reference(String[] rows, int naming, int tries) {
         List<Integer> order = new ArrayList<>();
         for (int i = 0; i < boxes.size(); i++) {
             order.add(i);
@@ -280,7 +280,7 @@ public final class TextsTest {
         return Checks.joined(Checks.bytes(head), Checks.packed(bitsOf(order, naming)));
     }
 
-    private static String[] someSheet(Random random) {
+    static String[] someSheet(Random random) {
         int w = 1 + random.nextInt(24);
         int h = 1 + random.nextInt(24);
         char[][] rows = new char[h][w];
