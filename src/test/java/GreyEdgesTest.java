@@ -252,6 +252,10 @@ public final class GreyEdgesTest {
             } else if (run % 3 == 1) {
                 h.feed(0, 255);
                 Checks.broken("more", h, 13, 4, () -> h.ungrey(0, 1));
+            } else {
+                // a run that goes on behind the last bit is left when the next one writes
+                Checks.load(h, 0, bits(1, 1, 1, "1110" + "00"));
+                Checks.broken("a long run", h, 12, 4, () -> h.ungrey(0, 1));
             }
         }
     }

@@ -778,149 +778,7 @@ public final class LineEdgesTest {
         Checks.broken("too many components", h, 20, 0, () -> h.unline(0, 7));
     }
 
-    // ---- any data, by a plain reading of the document
-
-    private static final class Met extends RuntimeException {
-        private static final long serialVersionUID = 1;
-        final int number;
-        final int place;
-
-        Met(int number, int place) {
-            this.number = number;
-            this.place = place;
-        }
-    }
-
-    /** Reads the data of one scan: bits are looked for one by one in a text. */
-    private static final class Reader {
-        final int[] file;
-        int place;
-        int bit = 8;
-        int top;
-        int near;
-        int reset;
-        int start;
-
-        Reader(int[] file, int place) {
-            this.file = file;
-            this.place = place;
-        }
-
-        int bit() {
-            if (bit == 8) {
-                if (place >= file.length) {
-                    throw new Met(1, file.length);
-                }
-                bit = 0;
-                if (place > from && file[place - 1] == 255) {
-                    if (file[place] > 127) {
-                        throw new Met(7, place);
-                    }
-                    bit = 1;
-                }
-                place++;
-            }
-            return file[place - 1] >> 7 - bit++ & 1;
-        }
-
-        int from;
-
-        void part() {
-            bit = 8;
-            from = place;
-        }
-
-        void endOfPart() {
-            while (bit < 8) {
-                if ((file[place - 1] >> 7 - bit++ & 1) != 0) {
-                    throw new Met(7, place - 1);
-                }
-            }
-            if (file[place - 1] == 255) {
-                if (place >= file.length) {
-                    throw new Met(1, file.length);
-                }
-                if (file[place++] != 0) {
-                    throw new Met(7, place - 1);
-                }
-            }
-        }
-
-        void restart(int count) {
-            if (place + 2 > file.length) {
-                throw new Met(1, file.length);
-            }
-            if (file[place] != 255 || file[place + 1] != 0xD0 + count % 8) {
-                throw new Met(8, place);
-            }
-            place += 2;
-        }
-
-        int[][][] scan(int width, int height, int components, int turn, int restart) {
-            int[][][] told = new int[components][height][width];
-            int[] sums = new int[components];
-            int[] numbers = new int[components];
-            int first = 0;
-            part();
-            Arrays.fill(sums, start);
-            Arrays.fill(numbers, 1);
-            for (int y = 0; y < height; y++) {
-                if (restart > 0 && y > 0 && y % restart == 0) {
-                    endOfPart();
-                    restart(y / restart - 1);
-                    part();
-                    Arrays.fill(sums, start);
-                    Arrays.fill(numbers, 1);
-                    first = y;
-                }
-                for (int i = 0; i < width * components; i++) {
-                    int c = turn == 2 ? i % components : i / width;
-                    int x = turn == 2 ? i / components : i % width;
-                    int b = y > first ? told[c][y - 1][x] : 0;
-                    int a = x > 0 ? told[c][y][x - 1] : b;
-                    int d = x == 0 ? b : y > first ? told[c][y - 1][x - 1] : 0;
-                    int foretold = d >= Math.max(a, b) ? Math.min(a, b) : d <= Math.min(a, b) ? Math.max(a, b) : a + b - d;
-                    told[c][y][x] = sample(foretold, c, sums, numbers);
-                }
-            }
-            endOfPart();
-            return told;
-        }
-
-        int sample(int foretold, int c, int[] sums, int[] numbers) {
-            int k = 0;
-            while (k < 12 && (numbers[c] << k) < sums[c]) {
-                k++;
-            }
-            int m = 0;
-            while (bit() == 0) {
-                if (++m == 21) {
-                    throw new Met(7, place - 1);
-                }
-            }
-            int more = m == 20 ? 9 : k;
-            m = m == 20 ? 0 : m;
-            for (int i = 0; i < more; i++) {
-                m = 2 * m + bit();
-            }
-            int error = m % 2 == 0 ? m / 2 : -(m + 1) / 2;
-            if (numbers[c] == reset) {
-                numbers[c] /= 2;
-                sums[c] /= 2;
-            }
-            numbers[c]++;
-            sums[c] += Math.abs(error);
-            int step = 2 * near + 1;
-            int range = (top + 2 * near) / step + 1;
-            int v = foretold + step * error;
-            if (v < -near) {
-                v += step * range;
-            } else if (v > top + near) {
-                v -= step * range;
-            }
-            return Math.max(0, Math.min(top, v));
-        }
-    }
+    // ---- any data, by the second reading of the document
 
     private static void anyData() {
         Random random = new Random(77);
@@ -949,7 +807,7 @@ public final class LineEdgesTest {
             if (random.nextInt(4) == 0) {
                 file = Checks.first(file, from + random.nextInt(file.length - from));
             }
-            Reader reader = new Reader(file, from);
+            SecondReadingTest.LineData reader = new SecondReadingTest.LineData(file, from);
             reader.top = (1 << bits) - 1;
             reader.near = stream.near;
             reader.reset = stream.reset;
@@ -972,7 +830,7 @@ public final class LineEdgesTest {
                     }
                 }
                 seen[0]++;
-            } catch (Met met) {
+            } catch (SecondReadingTest.Fault met) {
                 seen[met.number]++;
                 Checks.sameFault("any data " + run, h, answer, met.number, met.place);
             }

@@ -602,6 +602,10 @@ public final class PackEdgesTest {
         String aligned = open + "100" + "0".repeat(align);
         right("1500, stored", aligned + low(9, 16) + low(~9 & 0xFFFF, 16) + low(5, 8).repeat(9), repeated(5, 1500));
         tooShort("1501, stored", aligned + low(10, 16) + low(~10 & 0xFFFF, 16) + low(5, 8).repeat(10));
+        // as many tokens as bytes: 1500 codes of one bit
+        String single = own(lengths(257, 5, 1, 256, 1), lengths(1), 257, 1);
+        right("1500, by literals", single + "0".repeat(1500) + "1", repeated(5, 1500));
+        tooShort("1501, by literals", single + "0".repeat(1501) + "1");
         tooShort("1501 before what is behind", most + match(209, 1) + literal(5) + literal(286));
     }
 

@@ -14,10 +14,10 @@ public final class WavesTest {
 
     // ---- a plain reading of the document, with maps in place of rows
 
-    private static int width;
-    private static int height;
-    private static boolean[][] inside;
-    private static int[][] wave;
+    static int width;
+    static int height;
+    static boolean[][] inside;
+    static int[][] wave;
     private static int[][] part;
 
     private static void findParts() {
@@ -44,7 +44,7 @@ public final class WavesTest {
         spread(x, y + 1, number);
     }
 
-    private static void transform(boolean back) {
+    static void transform(boolean back) {
         findParts();
         for (int step : back ? new int[] {4, 2, 1} : new int[] {1, 2, 4}) {
             for (boolean rows : back ? new boolean[] {false, true} : new boolean[] {true, false}) {
