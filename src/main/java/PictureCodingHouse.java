@@ -562,12 +562,15 @@ public final class PictureCodingHouse {
     // ---- what is told
 
     public int size(int sort, int k, int what) throws IndexOutOfBoundsException, IllegalArgumentException {
-        // what is counted goes before the sort; by another sort, what is no number of any
-        needIndex(k, sort == 0 ? PICTURES : sort == 1 ? SHEETS : FILES);
-        needArgument(isIn(sort, 0, 2) && isIn(what, 0, sort == 2 ? 0 : 2));
+        // without a sort nothing is counted, so no number is out of its bounds
+        needArgument(isIn(sort, 0, 2));
         if (sort == 2) {
+            needIndex(k, FILES);
+            needArgument(what == 0);
             return files[k].count;
         }
+        needIndex(k, sort == 0 ? PICTURES : SHEETS);
+        needArgument(isIn(what, 0, 2));
         Grid grid = sort == 0 ? pictures[k] : sheets[k];
         if (what == 2) {
             return grid.countMarks();

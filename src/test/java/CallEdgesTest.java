@@ -414,9 +414,9 @@ public final class CallEdgesTest {
         new Face("size of a picture", (h, a) -> h.size(0, a[0], a[1]), 3, 0).index(0, 8).argument(1, 0, 2).check();
         new Face("size of a sheet", (h, a) -> h.size(1, a[0], a[1]), 2, 0).index(0, 4).argument(1, 0, 2).check();
         new Face("size of a file", (h, a) -> h.size(2, a[0], a[1]), 5, 0).index(0, 12).argument(1, 0, 0).check();
-        // a number that is none of any sort's is looked at before the sort, as all that is counted
+        // by another sort nothing is counted, whatever the number is
         new Face("size of another sort", (h, a) -> h.size(a[0], a[1], a[2]), 0, 3, 0)
-                .wrong(INDEX, 1, -1, 12, LEAST, MOST).wrong(ARGUMENT, 0, -1, 3, LEAST, MOST)
+                .wrong(ARGUMENT, 0, -1, 3, LEAST, MOST).wrong(INDEX, 1, -1, 8, LEAST, MOST)
                 .wrong(ARGUMENT, 2, -1, 3).check();
     }
 
