@@ -115,7 +115,7 @@ public final class SecondReadingTest {
 
     // ---- 2 LINES, but for the data
 
-    private static int[] lineFile(Random random) {
+    static int[] lineFile(Random random) {
         int n = 1 + random.nextInt(3);
         int bits = 2 + random.nextInt(4);
         int[][][] samples = new int[n][][];
@@ -769,7 +769,7 @@ public final class SecondReadingTest {
         return picture;
     }
 
-    private static int[] chunkFile(Random random) {
+    static int[] chunkFile(Random random) {
         int kind = new int[] {0, 2, 3, 4, 6}[random.nextInt(5)];
         int bits = kind == 0 || kind == 3 ? 1 << random.nextInt(4) : 8;
         int w = 1 + random.nextInt(4);
@@ -1356,7 +1356,7 @@ public final class SecondReadingTest {
     }
 
     /** A text with all that may be read, and some that may not. */
-    private static int[] textFile(Random random) {
+    static int[] textFile(Random random) {
         int naming = random.nextInt(2);
         int symbols = random.nextInt(5);
         List<Integer> head = new ArrayList<>(List.of(84, naming, 4 + random.nextInt(21), 4 + random.nextInt(21), symbols));
